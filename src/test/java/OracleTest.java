@@ -12,7 +12,7 @@ import java.util.Random;
  * and exceptions among them, every question that can be asked. The seeds are fixed.
  */
 public final class OracleTest {
-    private static final int RUNS = 1500;
+    private static final int RUNS = 700;
     private static final List<String> AHEAD = List.of("finishIfAdded", "finishOf", "tardinessAhead",
             "bestRule", "neededRope", "bestExpedite");
     private static final List<String> CHANGING = List.of("appendByte", "load", "advance", "addOrder",
