@@ -155,6 +155,8 @@ public final class AheadTest {
         one.advance(131);
         Check.is(one.stateOf(0), 1);
         Check.is(one.neededRope(), 100);
+        DrumRope edge = Check.shop("stations 1 0;rope 400;product 0 8;order 0 50 9000");
+        Check.is(edge.neededRope(), 400);
         DrumRope most = Check.shop("stations 1 0;rope 1000;product 0 20;order 0 50 9000");
         Check.is(most.neededRope(), 1000);
         most.cancel(0);
@@ -185,6 +187,9 @@ public final class AheadTest {
         y.setDue(3, 30);
         // with 1 or 2 first 21, with 3 first 41
         Check.is(y.bestExpedite(), 1);
+        // an order numbered 0 can be the one
+        DrumRope z = Check.shop("stations 1 0;buffers 500 5;rope 500;rule 2;product 0 1;order 0 1 9;order 0 20 8");
+        Check.is(z.bestExpedite(), 0);
         y.cancel(3);
         Check.is(y.bestExpedite(), 1);
         Check.is(new DrumRope().bestExpedite(), DrumRope.NONE);

@@ -7,6 +7,7 @@ public final class BufferTest {
         drumBuffer();
         shippingBuffer();
         neverNegative();
+        shortestBuffers();
         otherStates();
         inZone();
         redAtDrum();
@@ -75,6 +76,23 @@ public final class BufferTest {
         Check.is(x.stateOf(0), 1);
         Check.is(x.penetration(0), 0);
         Check.is(x.zone(0), 0);
+    }
+
+    private static void shortestBuffers() {
+        DrumRope x = Check.shop("stations 2 0;buffers 1 1;product 0 1 1 9;order 0 5 20");
+        x.stop(0, 15);
+        x.advance(14);
+        Check.is(x.releasedAt(0), 13);
+        Check.is(x.penetration(0), 1000);
+        Check.is(x.zone(0), 3);
+        x.advance(1);
+        Check.is(x.penetration(0), 2000);
+        x.advance(4);
+        Check.is(x.penetration(0), 0);
+        Check.is(x.zone(0), 0);
+        x.advance(2);
+        Check.is(x.penetration(0), 2000);
+        Check.is(x.zone(0), 3);
     }
 
     private static void otherStates() {

@@ -9,6 +9,7 @@ public final class LoadTest {
         loadStartsAnew();
         errorLeavesAll();
         rightTexts();
+        shorterText();
         lastOneCounts();
         firstStatement();
         settings();
@@ -83,6 +84,7 @@ public final class LoadTest {
         x.advance(20);
         x.stop(0, 50);
         Check.is(x.saveSnapshot(1), 20);
+        leaveMuchBehind(x);
         Check.is(Check.load(x, "stations 1 0;product 0 3;order 0 5 90"), 1);
         Check.is(x.now(), 0);
         Check.is(x.rope(), 100);
@@ -100,9 +102,29 @@ public final class LoadTest {
         Check.is(x.queueLength(0), 0);
         Check.is(x.starvedTicks(), 0);
         Check.is(x.tardiness(), 0);
+        Check.is(x.worstStation(), -1);
+        Check.is(x.bottleneck(), 0);
+        Check.is(x.productCount(), 1);
         Check.is(x.plannedStart(0), 55);
+        Check.is(x.releaseTime(0), 35);
+        x.advance(36);
+        Check.is(x.setups(0), 1);
+        Check.is(x.remaining(0), 14);
+        Check.is(x.nextChoice(0), -1);
         Check.is(x.restoreSnapshot(1), 20);
         Check.is(x.orderCount(), 2);
+    }
+
+    /** A shop, and a prediction in it, with something in every row. */
+    private static void leaveMuchBehind(DrumRope x) {
+        Check.is(Check.load(x, "stations 3 0;buffers 500 5;rope 5000;rule 1;auto 1;setup 0 9;setup 1 8;setup 2 7;"
+                + "product 0 20 1 20 2 20;product 2 20 1 20 0 20" + ";order 0 50 0;order 1 50 0".repeat(9)), 18);
+        x.expedite(0, true);
+        x.advance(100);
+        for (int s = 0; s < 3; s++) {
+            x.stop(s, 500);
+        }
+        Check.is(x.finishOf(17), DrumRope.NONE);
     }
 
     private static void errorLeavesAll() {
@@ -132,6 +154,18 @@ public final class LoadTest {
         Check.is(least.plannedStart(0), 0);
         Check.is(least.rope(), 1);
         Check.is(Check.shop("stations 1 0;product0 1;order0 1 1").orderCount(), 1);
+    }
+
+    /** What an earlier text left in the buffer does not belong to a shorter one. */
+    private static void shorterText() {
+        DrumRope x = Check.shop("stations 1 0;rope 55;rule 3");
+        Check.is(Check.load(x, "stations 1 0;rope 5"), 0);
+        Check.is(x.rope(), 5);
+        Check.is(Check.load(x, "stations 1 0;rope"), -117);
+        Check.is(x.loadError(), 1);
+        Check.is(Check.load(x, "stations 1 0;ro"), -113);
+        Check.is(Check.load(x, "stations 1 0;"), -113);
+        Check.is(Check.load(x, "stations 1 0"), 0);
     }
 
     private static void lastOneCounts() {
@@ -180,6 +214,17 @@ public final class LoadTest {
         Check.error(s + "rope 5 6", 1, 20, 1);
         Check.error(s + "rope 5;rop 5", 1, 20, 2);
         Check.error(s + "\trope 5", 1, 13, 1);
+        for (String word : new String[] {"buffers", "rope", "rule", "auto", "setup", "product", "order"}) {
+            Check.error(s + "z" + word.substring(1) + " 0 1", 1, 13, 1);
+            Check.error(s + word.substring(0, word.length() - 1) + "z 0 1", 1, 13, 1);
+            Check.error(s + word + "z 0 1", 1, 13, 1);
+            Check.error(s + word + "a 0 1", 1, 13, 1);
+            Check.error(s + word.substring(1) + " 0 1", 1, 13, 1);
+            Check.error(s + word + "{", 1, 13 + word.length(), 1);
+            Check.error(s + word + "`", 1, 13 + word.length(), 1);
+            Check.error(s + word + "/", 1, 13 + word.length(), 1);
+            Check.error(s + word + ":", 1, 13 + word.length(), 1);
+        }
         Check.error(s + "rope\u00e95", 1, 17, 1);
         Check.error(s + "rope" + (char) 0, 1, 17, 1);
         Check.error(s + "buffers 0 1", 2, 21, 1);
@@ -317,6 +362,7 @@ public final class LoadTest {
         Check.is(x.workOf(0, 1), 7);
         Check.is(x.workOf(1, 50), 1000);
         Check.is(x.workOf(1, 3), 60);
+        Check.is(x.drumWork(0, 1), 7);
         Check.is(x.drumWork(0, 50), 350);
         Check.is(x.drumWork(1, 3), 12);
         Check.index(() -> x.workOf(2, 0));

@@ -251,7 +251,11 @@ public final class OrdersTest {
         x.advance(1);
         Check.is(x.isWorkedOn(0), true);
         Check.is(x.remaining(0), 5);
-        x.advance(5);
+        x.advance(4);
+        Check.is(x.isWorkedOn(0), true);
+        Check.is(x.remaining(0), 1);
+        Check.is(x.loadOf(1), 1);
+        x.advance(1);
         Check.is(x.stepOf(0), 2);
         Check.is(x.advance(2), 1);
         Check.is(x.stepOf(0), 3);

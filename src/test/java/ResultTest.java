@@ -6,6 +6,7 @@ public final class ResultTest {
 
     public static void main(String[] args) {
         late();
+        lateFirst();
         flow();
         flowOfOthers();
         Check.end();
@@ -30,6 +31,15 @@ public final class ResultTest {
         x.advance(50);
         Check.is(x.stateOf(3), 2);
         Check.is(x.lateCount(), 2);
+        Check.is(x.tardiness(), 5);
+    }
+
+    private static void lateFirst() {
+        DrumRope x = Check.shop("stations 1 0;buffers 500 5;product 0 3;order 0 2 1");
+        x.advance(6);
+        Check.is(x.lateCount(), 1);
+        Check.is(x.tardiness(), 5);
+        x.advance(9);
         Check.is(x.tardiness(), 5);
     }
 

@@ -8,6 +8,7 @@ public final class SnapshotTest {
         everythingComesBack();
         afterAnotherLoad();
         goesOnAlike();
+        arrivalsComeBack();
         Check.end();
     }
 
@@ -80,6 +81,25 @@ public final class SnapshotTest {
         Check.is(x.restoreSnapshot(0), 25);
         Check.is(x.loadError(), 1);
         Check.is(x.loadStatement(), 0);
+    }
+
+    private static void arrivalsComeBack() {
+        DrumRope x = Check.shop("stations 3 2;buffers 500 10;rope 500;product 0 9 2 1;product 1 3 2 1;"
+                + "order 0 1 50;order 1 1 90");
+        x.stop(2, 20);
+        x.advance(12);
+        Check.is(x.nextChoice(2), 1);
+        Check.is(x.releaseTime(0), -461);
+        x.saveSnapshot(0);
+        Check.is(Check.load(x, "stations 3 2;buffers 500 10;rope 500;product 0 3 2 1;product 1 9 2 1;"
+                + "order 0 1 80;order 1 1 70"), 2);
+        x.stop(2, 20);
+        x.advance(12);
+        Check.is(x.nextChoice(2), 0);
+        x.restoreSnapshot(0);
+        Check.is(x.nextChoice(2), 1);
+        Check.is(x.releaseTime(0), -461);
+        Check.is(x.penetration(0), 946);
     }
 
     private static void goesOnAlike() {

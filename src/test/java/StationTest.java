@@ -259,6 +259,9 @@ public final class StationTest {
         x.stop(1, 5);
         x.advance(7);
         Check.is(x.starvedTicks(), 39);
+        DrumRope one = Check.shop("stations 1 0;buffers 10 10;product 0 1;order 0 5 90");
+        one.advance(9);
+        Check.is(one.starvedTicks(), 9);
         Check.is(new DrumRope().starvedTicks(), 0);
     }
 
