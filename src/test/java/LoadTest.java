@@ -117,8 +117,8 @@ public final class LoadTest {
 
     /** A shop, and a prediction in it, with something in every row. */
     private static void leaveMuchBehind(DrumRope x) {
-        Check.is(Check.load(x, "stations 3 0;buffers 500 5;rope 5000;rule 1;auto 1;setup 0 9;setup 1 8;setup 2 7;"
-                + "product 0 20 1 20 2 20;product 2 20 1 20 0 20" + ";order 0 50 0;order 1 50 0".repeat(9)), 18);
+        Check.is(Check.load(x, "stations 3 2;buffers 500 5;rope 5000;rule 1;auto 1;setup 0 9;setup 1 8;setup 2 7;"
+                + "product 2 1 0 20 1 20;product 2 1 1 20 0 20" + ";order 0 50 0;order 1 50 0".repeat(9)), 18);
         x.expedite(0, true);
         x.advance(100);
         for (int s = 0; s < 3; s++) {
