@@ -1209,7 +1209,7 @@ public final class DrumRope {
         private void readStatement(Shop shop) {
             skipSpaces();
             int first = at;
-            while (isLetter()) {
+            while (at < length && isLetter()) {
                 at++;
             }
             boolean isFirst = statement == 0;
@@ -1334,7 +1334,7 @@ public final class DrumRope {
             skipSpaces();
             int first = at;
             int value = 0;
-            while (isDigit()) {
+            while (at < length && isDigit()) {
                 // beyond every range: more digits must not wrap it round into one
                 value = Math.min(10 * value + text[at] - '0', 1000000);
                 at++;

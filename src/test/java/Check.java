@@ -55,6 +55,12 @@ final class Check {
         is(x.loadStatement(), statement, "loadStatement of '" + text + "'");
     }
 
+    /** The text's error, which stands at the sign ^; the sign itself is no part of the text. */
+    static void errorAt(String marked, int kind, int statement) {
+        int position = marked.indexOf('^');
+        error(marked.substring(0, position) + marked.substring(position + 1), kind, position, statement);
+    }
+
     static void index(Call call) {
         is(thrown(call), "IndexOutOfBoundsException", "what is thrown");
     }

@@ -18,6 +18,43 @@ final class Questions {
         return q.text.toString();
     }
 
+    /**
+     * All that can be told of an object, also what shows only when it is changed: the results of the
+     * load, the length and the bytes of the input buffer, the rule, the marks, the snapshots, and how
+     * the shop goes on. The object is spoilt by it.
+     */
+    static String everything(DrumRope x) {
+        Questions q = new Questions(x);
+        q.put(x.loadError());
+        q.put(x.loadStatement());
+        q.put(answers(x));
+        q.rest();
+        for (int slot = 0; slot < 2; slot++) {
+            q.put(x.restoreSnapshot(slot));
+            q.put(answers(x));
+            q.rest();
+        }
+        q.put(x.appendByte(' '));
+        q.put(x.load());
+        q.put(x.loadError());
+        q.put(x.loadStatement());
+        q.put(answers(x));
+        q.rest();
+        return q.text.toString();
+    }
+
+    /** What lies ahead first, as the marks and the rule are lost when they are looked at. */
+    private void rest() {
+        for (int i = 0; i < 3; i++) {
+            put(x.advance(17));
+            put(answers(x));
+        }
+        for (int i = 0; i < x.orderCount(); i++) {
+            put(x.expedite(i, false));
+        }
+        put(x.setRule(0));
+    }
+
     private void put(Object answer) {
         text.append(answer).append(' ');
     }
