@@ -17,11 +17,13 @@ public final class AheadEdgeTest {
         finishOf();
         finishOfOtherStates();
         asItComes();
+        asSection4Tells();
         notLimitedByTime();
         tardinessAtTheHorizon();
         tardinessOfAll();
         bestRule();
         neededRope();
+        neededRopeByRule();
         neededRopeLeavesOut();
         neededRopeAgainst1000();
         bestExpedite();
@@ -112,6 +114,35 @@ public final class AheadEdgeTest {
         Check.is(x.tardiness(), sum);
     }
 
+    /** "Predictions simulate ticks as section 4 tells": by the present rule, with AUTO, marks and stops. */
+    private static void asSection4Tells() {
+        DrumRope x = Check.shop("stations 1 0;buffers 500 5;rope 500;product 0 1;order 0 20 25;order 0 2 5");
+        Check.is(x.finishOf(1), 22);
+        Check.is(x.finishIfAdded(0, 1, 0), 23);
+        x.setRule(2);
+        Check.is(x.finishOf(1), 2);
+        Check.is(x.finishIfAdded(0, 1, 0), 1);
+        x.expedite(0, true);
+        Check.is(x.finishOf(1), 22);
+        Check.is(x.finishIfAdded(0, 1, 0), 21);
+        Check.is(x.tardinessAhead(3), 17);
+        x.stop(0, 7);
+        Check.is(x.finishOf(1), 29);
+        Check.is(x.finishIfAdded(0, 1, 0), 28);
+        Check.is(x.tardinessAhead(3), 26);
+        // order 0 is black from the first tick on, order 1 green and shorter
+        String hurry = "stations 1 0;buffers 30 10;rope 500;rule 3;product 0 1;order 0 20 12;order 0 10 35";
+        DrumRope without = Check.shop(hurry);
+        Check.is(without.finishOf(0), 30);
+        Check.is(without.tardinessAhead(3), 18);
+        Check.is(without.bestExpedite(), 0);
+        DrumRope with = Check.shop(hurry + ";auto 1");
+        Check.is(with.finishOf(0), 20);
+        Check.is(with.finishOf(1), 30);
+        Check.is(with.tardinessAhead(3), 8);
+        Check.is(with.bestExpedite(), DrumRope.NONE);
+    }
+
     /** Section 6: "they are not limited by time 30000". */
     private static void notLimitedByTime() {
         DrumRope x = Check.shop("stations 1 0;buffers 500 5;rope 1000;product 0 1");
@@ -130,6 +161,15 @@ public final class AheadEdgeTest {
         Check.is(x.neededRope(), 100);
         Check.is(x.now(), 30000);
         Check.is(x.advance(1), DrumRope.FULL);
+        DrumRope y = Check.shop(drumAndFeeder(10, 1000));
+        y.cancel(0);
+        y.cancel(1);
+        for (int i = 0; i < 60; i++) {
+            y.advance(500);
+        }
+        y.addOrder(0, 25, 30000);
+        y.addOrder(1, 25, 30000);
+        Check.is(y.neededRope(), 500);
     }
 
     /** Promise 54: "at most 2000 ticks; orders that are not finished then count as finished at that time". */
@@ -200,6 +240,20 @@ public final class AheadEdgeTest {
         Check.is(new DrumRope().neededRope(), 100);
     }
 
+    /** "(as in tardinessAhead, with the present rule)". */
+    private static void neededRopeByRule() {
+        DrumRope x = Check.shop("stations 2 1;buffers 500 5;rope 1000;product 0 3 1 6;order 0 20 50;order 0 15 0");
+        // one behind the other with 200: 135 + 265; by rule 0 it is as late with more, by the others 135 + 205
+        int[] sums = {400, 340, 340, 340};
+        for (int rule = 0; rule <= 3; rule++) {
+            x.setRule(rule);
+            Check.is(x.tardinessAhead(rule), sums[rule]);
+            Check.is(x.neededRope(), rule == 0 ? 200 : 300);
+        }
+        x.setRope(200);
+        Check.is(x.tardinessAhead(3), 400);
+    }
+
     /** "Values that are smaller than the drum work of an order that is not released are left out." */
     private static void neededRopeLeavesOut() {
         Check.is(Check.shop("stations 1 0;product 0 2;order 0 50 9000").neededRope(), 100);
@@ -232,6 +286,13 @@ public final class AheadEdgeTest {
         x.setRope(1000);
         Check.is(x.tardinessAhead(0) > present, true);
         Check.is(x.neededRope(), 600);
+        // with a rope of 1001 the second one would be early enough
+        DrumRope widest = Check.shop("stations 2 1;buffers 500 5;rope 1001;product 1 20;product 0 20 1 1;"
+                + "order 0 50 0;order 1 1 0");
+        Check.is(widest.tardinessAhead(0), 2001);
+        Check.is(widest.neededRope(), 1000);
+        widest.setRope(1000);
+        Check.is(widest.tardinessAhead(0), 2021);
         // and a present rope that is too short is no bound
         DrumRope y = Check.shop(drumAndFeeder(10, 250));
         Check.is(y.neededRope(), 500);

@@ -9,6 +9,7 @@ public final class OrderEdgeTest {
 
     public static void main(String[] args) {
         counts();
+        lastOnes();
         stepCount();
         stepAt();
         workOf();
@@ -64,6 +65,49 @@ public final class OrderEdgeTest {
             full.cancel(i);
         }
         Check.is(full.orderCount(), 24);
+    }
+
+    /** "if there is no such product", "station", "order": the last one there is, and the next number. */
+    private static void lastOnes() {
+        DrumRope x = Check.shop("stations 6 5;buffers 5 5" + ";product 5 1 0 2".repeat(6) + ";order 5 1 9000".repeat(23));
+        Check.is(x.stepCount(5), 2);
+        Check.is(x.stepAt(5, 1, 1), 2);
+        Check.is(x.workOf(5, 1), 3);
+        Check.is(x.drumWork(5, 1), 1);
+        Check.is(x.quote(5, 1), 11);
+        Check.is(x.finishIfAdded(5, 1, 0), 3);
+        Check.index(() -> x.stepCount(6));
+        Check.index(() -> x.stepAt(6, 0, 0));
+        Check.index(() -> x.workOf(6, 1));
+        Check.index(() -> x.drumWork(6, 1));
+        Check.index(() -> x.quote(6, 1));
+        Check.index(() -> x.finishIfAdded(6, 1, 0));
+        Check.index(() -> x.addOrder(6, 1, 0));
+        Check.index(() -> x.stateOf(23));
+        Check.is(x.addOrder(5, 1, 9000), 23);
+        Check.is(x.stateOf(23), 0);
+        Check.is(x.plannedStart(23), 8994);
+        Check.is(x.expedite(23, true), false);
+        Check.is(x.setDue(23, 9001), 9000);
+        Check.is(x.cancel(23), 23);
+        Check.is(x.workingOn(5), -1);
+        Check.is(x.queueLength(5), 0);
+        Check.is(x.nextChoice(5), -1);
+        Check.is(x.busyTicks(5), 0);
+        Check.is(x.setups(5), 0);
+        Check.is(x.redAt(5), 0);
+        Check.is(x.loadOf(5), 23);
+        Check.is(x.stop(5, 1), 1);
+        Check.is(x.downUntil(5), 1);
+        Check.index(() -> x.workingOn(6));
+        Check.index(() -> x.queueLength(6));
+        Check.index(() -> x.nextChoice(6));
+        Check.index(() -> x.busyTicks(6));
+        Check.index(() -> x.setups(6));
+        Check.index(() -> x.redAt(6));
+        Check.index(() -> x.loadOf(6));
+        Check.index(() -> x.stop(6, 1));
+        Check.index(() -> x.downUntil(6));
     }
 
     /** Promise 9: "Returns 1 to 6", "if there is no such product". */
@@ -281,6 +325,14 @@ public final class OrderEdgeTest {
             Check.index(() -> x.expedite(bad, true));
             Check.index(() -> x.expedite(bad, false));
         }
+        // a mark outlasts the end of an order
+        x.expedite(1, true);
+        x.expedite(3, true);
+        x.cancel(3);
+        x.advance(100);
+        Check.is(x.stateOf(1), 2);
+        Check.is(x.expedite(1, true), true);
+        Check.is(x.expedite(3, true), true);
     }
 
     /** Promise 19: "rule: 0 to 3", "Returns the previous rule". */
@@ -384,7 +436,9 @@ public final class OrderEdgeTest {
         Check.is(x.remaining(1), 1);
         // begun, and then the station is stopped: it has begun it all the same
         x.stop(1, 9);
-        x.advance(9);
+        Check.is(x.isWorkedOn(1), true);
+        x.advance(8);
+        Check.is(x.downUntil(1), 15);
         Check.is(x.isWorkedOn(1), true);
         Check.is(x.remaining(1), 1);
     }
@@ -498,6 +552,7 @@ public final class OrderEdgeTest {
     private static void bottleneck() {
         Check.is(new DrumRope().bottleneck(), 0);
         Check.is(Check.shop("stations 6 5").bottleneck(), 0);
+        Check.is(Check.shop("stations 3 1;product 1 1;order 0 1 9000").bottleneck(), 1);
         DrumRope x = Check.shop("stations 6 5;rope 500;product 4 3 5 3;product 3 1 5 1;order 0 2 9000");
         Check.is(x.bottleneck(), 4);
         x.addOrder(1, 1, 9000);
@@ -508,5 +563,10 @@ public final class OrderEdgeTest {
         Check.is(x.loadOf(3), 7);
         Check.is(x.loadOf(5), 7);
         Check.is(x.bottleneck(), 3);
+        // station 0 takes part as well
+        DrumRope y = Check.shop("stations 2 1;product 0 3 1 3;product 0 2 1 3;order 0 1 9000");
+        Check.is(y.bottleneck(), 0);
+        y.addOrder(1, 1, 9000);
+        Check.is(y.bottleneck(), 1);
     }
 }

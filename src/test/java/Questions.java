@@ -24,9 +24,12 @@ final class Questions {
      * the shop goes on. The object is spoilt by it.
      */
     static String everything(DrumRope x) {
+        return x.loadError() + " " + x.loadStatement() + " " + allButLoad(x);
+    }
+
+    /** The same without the results of the load. */
+    static String allButLoad(DrumRope x) {
         Questions q = new Questions(x);
-        q.put(x.loadError());
-        q.put(x.loadStatement());
         q.put(answers(x));
         q.rest();
         for (int slot = 0; slot < 2; slot++) {

@@ -39,7 +39,7 @@ public final class RefusalTest {
         return kind == Kind.NEW ? new DrumRope() : kind == Kind.BUSY ? busy() : full();
     }
 
-    /** Orders in all states, a mark, a stop, a snapshot, and an error of a load. */
+    /** Orders in all states, a mark, a stop, a snapshot, and an empty buffer. */
     private static DrumRope busyWithoutText() {
         DrumRope x = Check.shop("stations 3 1;buffers 30 20;rope 60;rule 1;auto 1;setup 0 3;product 0 2 1 3 2 1;"
                 + "product 2 4 1 2;order 0 4 90;order 1 3 40;order 0 5 70;order 1 9 300;order 0 1 500");
@@ -50,12 +50,13 @@ public final class RefusalTest {
         x.saveSnapshot(0);
         x.advance(25);
         x.stop(0, 9);
-        Check.load(x, "stations 1 0;rope 0");
         return x;
     }
 
+    /** Besides, an error of a load, and a text that waits in the buffer. */
     private static DrumRope busy() {
         DrumRope x = busyWithoutText();
+        Check.load(x, "stations 1 0;rope 0");
         Check.type(x, "stations 2 1;rope 77;rule 3;product 1 2;order 0 3 50");
         return x;
     }
@@ -120,24 +121,19 @@ public final class RefusalTest {
         }
     }
 
-    /** "also on an error": each kind of them; an empty load then makes the results alike. */
+    /** "The buffer is emptied, also on an error", "and then everything stays as it is": each kind of them. */
     private static void loads() {
         String six = "stations 1 0" + ";product 0 1".repeat(6);
         String[] texts = {"", "stations 1 0;x", "stations 6 5;rope 9;rule 2;auto 0;setup 5 9;product 5 1;order 0 1 1;",
             "stations 1 0;buffers 1 501", "stations 2 0;product 1 1", six + ";product 0 1",
             six + ";order 0 1 1".repeat(24) + ";order 0 1 1", "stations 1 0;rope 2;product 0 1;order 0 3 1"};
         int[] kinds = {1, 1, 1, 2, 3, 4, 4, 5};
-        DrumRope plain = busyWithoutText();
-        String before = Questions.answers(plain);
-        Check.is(plain.load(), -100);
-        String due = Questions.everything(plain);
+        String due = Questions.allButLoad(busyWithoutText());
         for (int i = 0; i < texts.length; i++) {
             DrumRope x = busyWithoutText();
             Check.is(Check.load(x, texts[i]) <= -100, true);
             Check.is(x.loadError(), kinds[i]);
-            Check.is(Questions.answers(x), before, "the answers behind a load with an error");
-            Check.is(x.load(), -100);
-            Check.is(Questions.everything(x), due, "all behind a load with an error");
+            Check.is(Questions.allButLoad(x), due, "all behind a load with an error");
         }
     }
 

@@ -304,6 +304,14 @@ public final class TickEdgeTest {
             x.advance(1);
             Check.is(x.workingOn(0), auto == 1 ? 0 : -1);
             Check.is(x.stateOf(1), auto == 1 ? 1 : 2);
+            // both black, and the longer one with the smaller number is marked besides
+            DrumRope y = Check.shop("stations 1 0;buffers 30 10;rope 500;rule 3;auto " + auto
+                    + ";product 0 1;order 0 9 0;order 0 1 1");
+            y.stop(0, 50);
+            y.advance(50);
+            Check.is(y.inZone(3), 2);
+            y.expedite(0, true);
+            Check.is(y.nextChoice(0), auto == 1 ? 1 : 0);
         }
     }
 
@@ -379,6 +387,12 @@ public final class TickEdgeTest {
         y.advance(9);
         Check.is(y.workingOn(0), 2);
         Check.is(y.nextChoice(0), 0);
+        // at a station that is not the drum: 8 and 7 there, 4 and 70 at the drum
+        DrumRope z = Check.shop("stations 2 0;buffers 500 10;rope 500;rule 3;product 1 2 0 1;product 1 1 0 10;"
+                + "order 0 4 10;order 1 7 20");
+        z.stop(1, 9);
+        z.advance(1);
+        Check.is(z.nextChoice(1), 1);
     }
 
     /** "Of several, the one with the smallest number." */
@@ -621,10 +635,18 @@ public final class TickEdgeTest {
         Check.is(x.redAt(3), 2);
         Check.is(x.worstStation(), 3);
         Check.is(x.redAt(5), 0);
+        // one order alone makes a station the worst, station 0 as well
+        DrumRope one = Check.shop("stations 3 2;buffers 500 10;product 1 9 2 1;product 0 9 2 1;order 0 1 0");
+        one.advance(1);
+        Check.is(one.worstStation(), 1);
+        one.addOrder(1, 1, 0);
+        one.advance(1);
+        Check.is(one.redAt(0), 1);
+        Check.is(one.worstStation(), 0);
         // after another load none was seen
-        Check.is(Check.load(x, "stations 6 5"), 0);
+        Check.is(Check.load(x, "stations 3 0"), 0);
         Check.is(x.worstStation(), -1);
-        Check.is(Check.load(x, "stations 1 0"), 0);
+        Check.is(Check.load(x, "stations 6 5"), 0);
         Check.is(x.worstStation(), -1);
     }
 
